@@ -549,35 +549,24 @@ public final class LongProof {
             place = here;
             size = 0;
             value = 0;
-            type = END;
             if (here >= count) {
+                type = END;
                 return;
             }
-            if (row[here] >= 'a' && row[here] <= 'z') {
-                readWord();
-            } else if (row[here] >= '0' && row[here] <= '9') {
-                readNumber();
-            } else {
-                type = MARK;
+            boolean isLetter = row[here] >= 'a' && row[here] <= 'z';
+            boolean isDigit = row[here] >= '0' && row[here] <= '9';
+            type = isLetter ? WORD : isDigit ? NUMBER : MARK;
+            if (type == MARK) {
                 value = row[here] & 255;
                 size = 1;
+                return;
             }
-        }
-
-        private void readWord() {
-            type = WORD;
-            for (int here = place; here < count && row[here] >= 'a' && row[here] <= 'z'; here++) {
-                if (size < LETTERS) {
+            int lowest = isLetter ? 'a' : '0';
+            int highest = isLetter ? 'z' : '9';
+            for (; here < count && row[here] >= lowest && row[here] <= highest; here++) {
+                if (isLetter && size < LETTERS) {
                     value |= row[here] - 'a' + 1 << LETTER_BITS * (LETTERS - 1 - size);
-                }
-                size++;
-            }
-        }
-
-        private void readNumber() {
-            type = NUMBER;
-            for (int here = place; here < count && row[here] >= '0' && row[here] <= '9'; here++) {
-                if (size < DIGITS) {
+                } else if (isDigit && size < DIGITS) {
                     value = 10 * value + row[here] - '0';
                 }
                 size++;
