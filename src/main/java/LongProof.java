@@ -1520,11 +1520,8 @@ public final class LongProof {
             }
             known = true;
             most = 1;
-            while (most < left.count && !tellsWithin(left)) {
+            while (!tellsWithin(left) && most < left.count) {
                 most++;
-            }
-            if (most == left.count) {
-                tellsWithin(left);
             }
         }
 

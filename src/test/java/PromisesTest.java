@@ -319,6 +319,13 @@ public final class PromisesTest {
         due("leans(2, -1)", x.leans(2, -1), NONE);
         due("leans(3, 0)", x.leans(3, 0), NONE);
         due("leans(-1, 0)", x.leans(-1, 0), NONE);
+        LongProof forty = Told.of(line(40));
+        due("leans(39, 0)", forty.leans(39, 0), 38);
+        due("leans(40, 0)", forty.leans(40, 0), NONE);
+        due("rest(39)", forty.rest(39), 39);
+        due("rest(40)", forty.rest(40), NONE);
+        Told.tell(forty, line(3));
+        due("leans(3, 0) of fewer", forty.leans(3, 0), NONE);
         due("number of 4", x.step(4, 6), 1);
         due("number of 7", x.step(7, 6), NONE);
         due("needed", x.has(7), 1);
@@ -513,6 +520,15 @@ public final class PromisesTest {
         due("lemma(-1)", y.lemma(-1), NONE);
         Told.tell(y, CHAIN);
         due("no lemma of another proof", y.lemma(0), NONE);
+        StringBuilder eight = new StringBuilder("rule o gives ?x; rule s ?x gives ?y;");
+        for (int k = 0; k < 24; k++) {
+            eight.append(k % 8 == 0 ? "step a by o;" : "step a by s " + (k - 1 - (k % 8 == 7 ? 6 : 0)) + ";");
+        }
+        LongProof w = Told.of(eight.toString());
+        due("three of eight", w.worth(0, 8), 13);
+        due("lemma(0) of eight", w.lemma(0), 0);
+        due("lemma(1) of eight", w.lemma(1), 8);
+        due("lemma(2) of eight", w.lemma(2), 13);
         LongProof z = Told.of("rule o gives ?x; rule u gives ?x; rule v gives ?x; step a by u; step a by v;"
                 + "step a by u; step a by o; step a by o; step a by o; step a by o; step a by o; step a by o;"
                 + "step a by u; step a by v; step a by o; step a by u; step a by v; step a by u; step a by v;");
@@ -643,6 +659,12 @@ public final class PromisesTest {
         due("like many: the least bits", y.fewest(0), 0);
         due("like many: the least bits", y.fewest(1), 3);
         due("like many: the least bits", y.fewest(2), 4);
+        LongProof like = Told.of("rule o gives ?x; rule s ?x gives ?y; rule k ?x,?y gives ?z; step x by o; step z by o;"
+                + "step a by s 0; step b by s 1; step b by s 0; step a by o; step g by k 2 3;");
+        int[] least = {4, 0, 2, 4, 6, NONE};
+        for (int k = -1; k < 5; k++) {
+            due("the least bits, fewest(" + k + ")", like.fewest(k), least[k + 1]);
+        }
         LongProof z = Told.of("rule o gives ?x; rule v gives ?x; rule s ?x gives ?y; step a by v; step b by s 0;"
                 + "step a by o; step c by s 0;");
         due("a later one of that term", z.blame(1, true), 3);
@@ -750,7 +772,7 @@ public final class PromisesTest {
         due("two readers", x.trials(2, 6), 4);
         due("seed(-1)", x.seed(-1), false);
         due("seed(lowest)", x.seed(LOWEST), false);
-        x.seed(0);
+        due("seed(0)", x.seed(0), true);
         due("92 21", x.trials(0, 2), 1);
         x.seed(MOST);
         due("99 12 16 60 26 10", x.trials(0, 6), 4);
