@@ -1008,7 +1008,7 @@ public final class LongProof {
                     return NONE;
                 }
                 boolean isSign = what < Terms.HOLE;
-                boolean goesOn = isSign && text.isMark('(') ? openParts() : closeParts(isSign);
+                boolean goesOn = isSign && text.isMark('(') ? openBracket() : closeBrackets(isSign);
                 if (!goesOn) {
                     return NONE;
                 }
@@ -1042,7 +1042,7 @@ public final class LongProof {
             return what;
         }
 
-        private boolean openParts() {
+        private boolean openBracket() {
             if (open >= MOST_OPEN) {
                 return refuse(DEEP, text.place);
             }
@@ -1055,7 +1055,7 @@ public final class LongProof {
         }
 
         /** A part has ended: closes what ends with it, up to the TERM's end or a comma. */
-        private boolean closeParts(boolean isSign) {
+        private boolean closeBrackets(boolean isSign) {
             if (isSign && !book.terms.endParts(book.terms.cells - 1, 0)) {
                 return refuse(NAMED, namePlace);
             }
