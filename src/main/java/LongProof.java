@@ -686,6 +686,9 @@ public final class LongProof {
             int there = start;
             for (int here = pattern; here < behind[pattern]; here++) {
                 int what = cell[here];
+                if (there >= cells) {
+                    return false;
+                }
                 if (what < HOLE) {
                     if (cell[there] != what) {
                         return false;
@@ -1380,7 +1383,7 @@ public final class LongProof {
             size = 0;
             made = 0;
             unlike = 0;
-            while (size < Terms.MOST_IN_ONE && here < terms.behind[first]) {
+            while (size < Terms.MOST_IN_ONE && here < terms.behind[first] && there < terms.behind[second]) {
                 if (terms.cell[here] == terms.cell[there]) {
                     cell[size] = terms.cell[here];
                     here++;
