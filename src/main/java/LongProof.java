@@ -1445,14 +1445,24 @@ public final class LongProof {
                     return false;
                 }
                 for (int j = 0; j < book.nameCount(first + k); j++) {
-                    int one = Math.max(NONE, book.named(first + k, j) - first);
-                    int other = Math.max(NONE, book.named(second + k, j) - second);
-                    if (one != other) {
+                    int one = book.named(first + k, j);
+                    int other = book.named(second + k, j);
+                    if (!areInSamePlace(one, first, other, second) && !areAhead(one, other, first, second)) {
                         return false;
                     }
                 }
             }
             return true;
+        }
+
+        /** A STEP names earlier ones alone, so what is not ahead of its RUN is inside. */
+        private static boolean areInSamePlace(int one, int first, int other, int second) {
+            return one >= first && one - first == other - second;
+        }
+
+        /** Ahead of both RUNS: what stands between them, or in the earlier one, is not. */
+        private static boolean areAhead(int one, int other, int first, int second) {
+            return Math.max(one, other) < Math.min(first, second);
         }
 
         boolean isFirstOfItsKind(Facts facts, int first, int n) {

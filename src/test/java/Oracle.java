@@ -331,7 +331,7 @@ final class Oracle {
                 int a = one.names.get(j);
                 int b = other.names.get(j);
                 boolean samePlace = a >= first && b >= second && a - first == b - second;
-                boolean ahead = a < first && b < second;
+                boolean ahead = a < first && a < second && b < first && b < second;
                 if (!samePlace && !ahead) {
                     return 0;
                 }

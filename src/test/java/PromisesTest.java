@@ -22,6 +22,12 @@ public final class PromisesTest {
     private static final String CHAIN = "rule o gives a; rule s ?x gives f(?x); step a by o; step f(a) by s 0;"
             + "step f(f(a)) by s 1; step f(f(f(a))) by s 2; step f(f(f(f(a)))) by s 3;";
 
+    /** Six times one RULE behind another, from STEPS that stand ahead of some of the six and behind others. */
+    private static final String APART = "rule o gives ?x; rule s ?x gives ?y; rule t ?x gives ?y; step a by o;"
+            + "step a by o; step a by s 0; step a by t 2; step a by s 1; step a by t 4; step a by o; step a by s 0;"
+            + "step a by t 7; step a by s 6; step a by t 9; step a by s 6; step a by t 11; step a by s 3;"
+            + "step a by t 13;";
+
     public static void main(String[] args) {
         newObject();
         feed();
@@ -464,8 +470,8 @@ public final class PromisesTest {
     /** Promise 24. */
     private static void alike() {
         LongProof x = Told.of(CHAIN);
-        due("alike(1, 3, 2)", x.alike(1, 3, 2), 1);
-        due("alike(3, 1, 2)", x.alike(3, 1, 2), 1);
+        due("the later one names the earlier one's last", x.alike(1, 3, 2), 0);
+        due("the later one first", x.alike(3, 1, 2), 0);
         due("alike(0, 3, 2)", x.alike(0, 3, 2), 0);
         due("alike(1, 2, 2)", x.alike(1, 2, 2), NONE);
         due("alike(1, 1, 2)", x.alike(1, 1, 2), NONE);
@@ -484,13 +490,23 @@ public final class PromisesTest {
                 + "step a by o; step b by o; step c by k 4 3; step a by o; step b by o; step c by k 6 7;");
         due("other places", z.alike(0, 3, 3), 0);
         due("like places", z.alike(0, 6, 3), 1);
+        LongProof w = Told.of(APART);
+        due("other ones, both ahead of both", w.alike(2, 4, 2), 1);
+        due("the later one first", w.alike(4, 2, 2), 1);
+        due("one ahead of both for both", w.alike(2, 7, 2), 1);
+        due("behind the earlier one, ahead of the later one", w.alike(2, 9, 2), 0);
+        due("between them, the later one first", w.alike(9, 2, 2), 0);
+        due("ahead of both, though behind others", w.alike(9, 11, 2), 1);
+        due("between those", w.alike(7, 11, 2), 1);
+        due("the last one of the earlier", w.alike(2, 13, 2), 0);
+        due("the last one of one that is earlier than both", w.alike(4, 13, 2), 1);
     }
 
     /** Promises 25 and 26. */
     private static void worthAndLemma() {
         LongProof x = Told.of(CHAIN);
-        due("worth(1, 2): twice", x.worth(1, 2), 0);
-        due("worth(3, 2)", x.worth(3, 2), NONE);
+        due("worth(1, 2): once", x.worth(1, 2), -1);
+        due("worth(3, 2): alike to none", x.worth(3, 2), -1);
         due("worth(2, 2): once", x.worth(2, 2), -1);
         due("worth(0, 2): once", x.worth(0, 2), -1);
         due("worth(0, 9)", x.worth(0, 9), NONE);
@@ -536,6 +552,19 @@ public final class PromisesTest {
         due("three of two", z.worth(3, 2), 1);
         due("the first of like ones", z.lemma(0), 0);
         due("its length", z.lemma(1), 2);
+        worthOfThoseApart();
+    }
+
+    private static void worthOfThoseApart() {
+        LongProof x = Told.of(APART);
+        due("three of which what is named is ahead of both", x.worth(2, 2), 1);
+        due("alike to the first", x.worth(4, 2), NONE);
+        due("alike to the third, not to the first", x.worth(9, 2), NONE);
+        due("alike to the second, not to the first", x.worth(13, 2), NONE);
+        due("two of four", x.worth(7, 4), 2);
+        due("where the lemma begins", x.lemma(0), 7);
+        due("its length", x.lemma(1), 4);
+        due("its worth", x.lemma(2), 2);
     }
 
     /** Promises 27 and 28. */
