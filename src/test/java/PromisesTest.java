@@ -481,10 +481,12 @@ public final class PromisesTest {
         due("alike(0, 9, 9)", x.alike(0, 9, 9), NONE);
         due("alike(lowest, most, 2)", x.alike(LOWEST, MOST, 2), NONE);
         LongProof y = Told.of("rule o gives ?x; rule k ?x, ?y gives ?z; step a by o; step b by o; step c by k 1 0;"
-                + "step b by o; step c by k 3 0; step b by o; step c by k 0 5; step b by o; step c by k 7 7;");
+                + "step b by o; step c by k 3 0; step b by o; step c by k 0 5; step b by o; step c by k 7 7;"
+                + "step b by o; step c by k 0 0;");
         due("the same places", y.alike(1, 3, 2), 1);
         due("inside and ahead, but not in the same order", y.alike(1, 5, 2), 0);
         due("inside where the other one is ahead", y.alike(1, 7, 2), 0);
+        due("ahead where the other one is inside", y.alike(1, 9, 2), 0);
         due("no run", Told.of(TREE).alike(0, 5, 2), NONE);
         LongProof z = Told.of("rule o gives ?x; rule k ?x, ?y gives ?z; step a by o; step b by o; step c by k 0 1;"
                 + "step a by o; step b by o; step c by k 4 3; step a by o; step b by o; step c by k 6 7;");
