@@ -13,6 +13,7 @@ public final class EdgesCallsTest {
 
     public static void main(String[] args) {
         lastCall();
+        constant();
         newObject();
         feed();
         fed();
@@ -80,6 +81,11 @@ public final class EdgesCallsTest {
         }
         due("call 511", x.blame(0, true), 1);
         due("call 512", x.fewest(NONE), NONE);
+    }
+
+    private static void constant() {
+        says("`NONE = -1`: There is none; it is refused.");
+        due("NONE", LongProof.NONE, -1);
     }
 
     private static void newObject() {
@@ -666,7 +672,7 @@ public final class EdgesCallsTest {
         for (int step : new int[] {-1, 2, 40, MOST, LOWEST}) {
             none("term(" + step + ", 0)", x.term(step, 0));
         }
-        LongProof most = of(full() + "");
+        LongProof most = of(full());
         due("the last SIGN", most.term(23, 0), 23);
         LongProof holes = of(many(12, "rule @ gives ?@;") + "step ?l by a;");
         due("the last HOLE", holes.term(0, 0), 111);

@@ -4,11 +4,16 @@ import java.lang.reflect.Modifier;
 import java.nio.charset.StandardCharsets;
 import java.nio.file.Files;
 import java.nio.file.Path;
+import java.util.ArrayList;
+import java.util.HashMap;
 import java.util.HashSet;
+import java.util.List;
+import java.util.Map;
 import java.util.Set;
 import java.util.TreeSet;
 import java.util.regex.Matcher;
 import java.util.regex.Pattern;
+import java.util.spi.ToolProvider;
 
 /** The document's face, and those rules of LANGUAGE.md that can be seen from outside. */
 public final class LanguageTest {
@@ -25,6 +30,7 @@ public final class LanguageTest {
         face();
         classes();
         source();
+        depths();
         Told.close();
     }
 
@@ -135,6 +141,59 @@ public final class LanguageTest {
             }
         }
         due("methods were found, " + methods, methods > 100);
+    }
+
+    /** Calls go eight deep at most, and none comes back to itself: rules 8 and 11, seen in what javac made. */
+    private static void depths() throws Exception {
+        List<String> words = new ArrayList<>(List.of("-c", "-p"));
+        Path made = Path.of(LongProof.class.getProtectionDomain().getCodeSource().getLocation().toURI());
+        words.add(made.resolve("LongProof.class").toString());
+        for (Class<?> each : LongProof.class.getDeclaredClasses()) {
+            words.add(made.resolve(each.getName() + ".class").toString());
+        }
+        java.io.StringWriter out = new java.io.StringWriter();
+        ToolProvider javap = ToolProvider.findFirst("javap").orElse(null);
+        if (javap == null) {
+            System.out.println("there is no javap: how deep calls go is not looked at");
+            return;
+        }
+        javap.run(new java.io.PrintWriter(out), new java.io.PrintWriter(out), words.toArray(new String[0]));
+        Map<String, Set<String>> calls = calls(out.toString());
+        due("methods were found, " + calls.size(), calls.size() > 100);
+        for (String method : calls.keySet()) {
+            due(method + " calls eight deep at most", deep(calls, method, 1) <= 8);
+        }
+    }
+
+    private static Map<String, Set<String>> calls(String told) {
+        Map<String, Set<String>> calls = new HashMap<>();
+        Pattern type = Pattern.compile("^(?:\\w+ )*class ([\\w$]+) \\{$");
+        Pattern method = Pattern.compile("^ {2}\\S.*?([\\w$]+)\\(.*\\);$");
+        Pattern call = Pattern.compile("// Method (?:(LongProof[\\w$]*)\\.)?\"?([\\w<>]+)\"?:");
+        String now = "";
+        String at = "";
+        for (String line : told.split("\\R")) {
+            Matcher types = type.matcher(line);
+            Matcher methods = method.matcher(line);
+            Matcher called = call.matcher(line);
+            if (types.find()) {
+                now = types.group(1);
+            } else if (methods.find()) {
+                at = now + "." + (methods.group(1).equals(now) ? "<init>" : methods.group(1));
+                calls.put(at, new HashSet<>());
+            } else if (called.find()) {
+                calls.get(at).add((called.group(1) == null ? now : called.group(1)) + "." + called.group(2));
+            }
+        }
+        return calls;
+    }
+
+    private static int deep(Map<String, Set<String>> calls, String method, int depth) {
+        int most = depth;
+        for (String called : depth > 8 ? Set.<String>of() : calls.getOrDefault(method, Set.of())) {
+            most = Math.max(most, deep(calls, called, depth + 1));
+        }
+        return most;
     }
 
     /** Objects and arrays are made with the object alone: in fields and in the one constructor. */
